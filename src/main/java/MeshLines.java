@@ -359,6 +359,7 @@ public final class MeshLines {
             return lanes[node * CHANNELS + channel];
         }
 
+        // Packets need no store to be used again: 240 operations send some 14 each at the most.
         void send(int from, int kind, int line, int destination, int asker, int value, int acks) {
             Packet packet = new Packet(kind, line, destination, asker, value, acks, flits);
             laneOf(from, packet.channel()).row.add(packet);

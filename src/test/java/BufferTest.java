@@ -99,7 +99,7 @@ public final class BufferTest {
         for (int depth = 1; depth <= 4; depth++) {
             int most = 0;
             MeshLines x = new MeshLines(depth, 5);
-            Programs.fill(x, 6, 40);
+            Programs.crowd(x);
             for (int i = 0; i < 400; i++) {
                 x.run(1);
                 most = Math.max(most, Seen.fullestBuffer(x));

@@ -9,6 +9,8 @@ public final class HomeTest {
         sharersComeAndGo();
         anOwnerGivesToTheHomeAndTheAsker();
         anOwnerGoes();
+        dataEndsSdThoughAllSharersWent();
+        lateRequestsToLeaveChangeNoValue();
         homesAreWhereTheyShouldBe();
         noneSuchIsBad();
         Check.end();
@@ -75,6 +77,53 @@ public final class HomeTest {
         line(x, "PUTM", 1, new int[] {I, 11, 0, 0});
         line(x, "not put", 3, new int[] {M, 0, 5, 0});
         line(x, "not put", 5, new int[] {M, 0, 5, 0});
+    }
+
+    /** Both sharers have gone before the old owner's DATA is there: the document says S all the same. */
+    private static void dataEndsSdThoughAllSharersWent() {
+        MeshLines x = new MeshLines(1, 3);
+        x.operation(1, 1, 2, 1, 0);
+        x.operation(1, 1, 0, 7, 0);
+        x.operation(1, 0, 2, 0, 0);
+        x.operation(1, 0, 4, 0, 0);
+        x.operation(0, 0, 6, 0, 0);
+        x.operation(0, 0, 0, 0, 12);
+        x.operation(0, 0, 6, 0, 0);
+        x.operation(0, 0, 4, 0, 0);
+        x.run(39);
+        line(x, "both are gone", 0, new int[] {SD, 0, 0, 0});
+        x.run(1);
+        line(x, "DATA", 0, new int[] {S, 7, 0, 0});
+        x.operation(5, 0, 0, 0, 0);
+        x.run(60);
+        line(x, "a new sharer", 0, new int[] {S, 7, 0, 32});
+        Check.due("its value", x.result(5, 0), 7);
+    }
+
+    /** PUTM of a node that is the owner no more: FWDM overtook it, and the new owner stays. */
+    private static void lateRequestsToLeaveChangeNoValue() {
+        MeshLines x = new MeshLines(4, 5);
+        x.operation(5, 1, 0, 7, 0);
+        x.operation(5, 1, 4, 1, 0);
+        x.operation(5, 1, 2, 2, 0);
+        boolean isGoing = false;
+        for (int i = 0; i < 100 && !isGoing; i++) {
+            x.run(1);
+            isGoing = x.cache(5, 0, 0) == 8;
+        }
+        x.operation(0, 2, 0, 9, 0);
+        x.run(3);
+        line(x, "FWDM was sent", 0, new int[] {M, 0, 1, 0});
+        x.run(4);
+        Check.due("FWDM is under way still", x.cache(5, 0, 0), 8);
+        x.run(1);
+        Check.due("FWDM is taken", x.cache(5, 0, 0), 10);
+        Check.due("the value stays in IIA", x.cache(5, 0, 1), 7);
+        x.run(60);
+        line(x, "PUTM came late", 0, new int[] {M, 0, 1, 0});
+        Check.due("DONE", x.cache(5, 0, 0), 0);
+        Check.due("the new owner's result", x.result(0, 0), 7);
+        Check.due("the new owner's value", x.cache(0, 0, 1), 9);
     }
 
     /** A node whose own lines are at home sends no flit over a link. */

@@ -37,7 +37,7 @@ public final class NewObjectTest {
     /** Most flits ever seen in a buffer in a busy run. */
     private static int fullest(int depth) {
         MeshLines x = new MeshLines(depth, 5);
-        Programs.fill(x, 6, 40);
+        Programs.crowd(x);
         int most = 0;
         for (int i = 0; i < 400; i++) {
             x.run(1);
