@@ -1,133 +1,125 @@
 /** Promise 8: buffer. */
 public final class BufferTest {
-    private static final int NORTH = 0;
-    private static final int EAST = 1;
-    private static final int SOUTH = 2;
-    private static final int WEST = 3;
-    private static final int OWN = 4;
-    private static final int ROW = 5;
-    private static final int INBOX = 6;
+    private static final int LEAST = Integer.MIN_VALUE;
+    private static final int GREATEST = Integer.MAX_VALUE;
 
     public static void main(String[] args) {
-        aRequestGoesFirstAlongTheColumnsThenTheRows();
-        aPacketStaysInTheRowUntilItsLastFlit();
-        stalledPacketsStayInTheInbox();
-        buffersHaveLittleRoom();
-        noneSuchIsBad();
+        flitsInABuffer();
+        packetsInARow();
+        packetsInAnInbox();
+        aBufferIsFullWithDepthFlits();
+        buffersAtTheEdgeStayEmpty();
+        theFirstAndLastOfEverything();
+        noSuchNodeIsBad();
+        noSuchPortIsBad();
+        noSuchChannelIsBad();
         Check.end();
     }
 
-    /** Where the one flit of channel 0 is: node * 10 + port, or -1 when it is in no buffer. */
-    private static int placeOfFlit(MeshLines x) {
-        int place = -1;
-        for (int n = 0; n < 6; n++) {
-            for (int port = 0; port < 5; port++) {
-                if (x.buffer(n, port, 0) == 1) {
-                    place = n * 10 + port;
-                }
-            }
-        }
-        return place;
+    /**
+     * DATA of five flits waits at WEST of node 1 while another packet holds EAST there until cycle
+     * 11. The buffer is full then, so that its fifth flit comes when the first one has gone.
+     */
+    private static void flitsInABuffer() {
+        Guarded x = new Guarded(4, 5);
+        x.operation(5, Programs.LOAD, 1, 0, 0);
+        x.operation(2, Programs.LOAD, 0, 0, 1);
+        x.run(7);
+        Port.buffersDue("waiting flits", x, 1, Port.WEST, 2, 1, 2, 3, 4, 3, 3, 2, 1, 0);
     }
 
-    private static void follow(int from, int line, int[] places) {
-        MeshLines x = new MeshLines(1, 2);
-        x.operation(from, 0, line, 0, 0);
-        x.run(1);
-        Check.due("in the row", x.buffer(from, ROW, 0), 1);
-        Check.due("in no buffer", placeOfFlit(x), -1);
-        for (int place : places) {
-            x.run(1);
-            Check.due("the flit from " + from, placeOfFlit(x), place);
-            Check.due("the row", x.buffer(from, ROW, 0), 0);
-        }
-        x.run(1);
-        Check.due("out", placeOfFlit(x), -1);
-        Check.due("taken at once", x.buffer(line % 6, INBOX, 0), 0);
-        Check.due("a DATA is sent", x.buffer(line % 6, ROW, 2), 1);
-    }
-
-    private static void aRequestGoesFirstAlongTheColumnsThenTheRows() {
-        follow(0, 0, new int[] {4});
-        follow(0, 5, new int[] {4, 13, 23, 50});
-        follow(5, 0, new int[] {54, 41, 31, 2});
-        follow(2, 3, new int[] {24, 11, 1, 30});
-        follow(3, 2, new int[] {34, 43, 53, 22});
-        follow(4, 7, new int[] {44, 12});
-        follow(1, 4, new int[] {14, 40});
-    }
-
-    private static void aPacketStaysInTheRowUntilItsLastFlit() {
-        MeshLines x = new MeshLines(2, 3);
-        x.operation(0, 0, 0, 0, 0);
+    private static void packetsInARow() {
+        Guarded x = new Guarded(2, 5);
+        x.operation(1, Programs.LOAD, 0, 0, 0);
+        x.operation(3, Programs.LOAD, 0, 0, 0);
         x.run(3);
-        Check.due("DATA in the row", x.buffer(0, ROW, 2), 1);
-        Check.due("no flit yet", x.buffer(0, OWN, 2), 0);
-        x.run(1);
-        Check.due("DATA in the row", x.buffer(0, ROW, 2), 1);
-        Check.due("the HEAD", x.buffer(0, OWN, 2), 1);
-        x.run(1);
-        Check.due("DATA in the row", x.buffer(0, ROW, 2), 1);
-        Check.due("the second flit, the HEAD is out", x.buffer(0, OWN, 2), 1);
-        x.run(1);
-        Check.due("the last flit left the row", x.buffer(0, ROW, 2), 0);
-        Check.due("the last flit", x.buffer(0, OWN, 2), 1);
-        Check.due("not arrived", x.buffer(0, INBOX, 2), 0);
-        x.run(1);
-        Check.due("out", x.buffer(0, OWN, 2), 0);
-        Check.due("taken at once", x.buffer(0, INBOX, 2), 0);
+        Port.buffersDue("DATA", x, 0, Port.ROW, 2, 1, 2, 2, 2, 2, 1, 1, 1, 1, 1, 0);
     }
 
     /** Node 0 waits for node 5's ACK until cycle 49, and node 3's FWDM waits for that. */
-    private static void stalledPacketsStayInTheInbox() {
-        MeshLines x = new MeshLines(4, 2);
-        x.operation(0, 0, 0, 0, 0);
-        x.operation(5, 0, 0, 0, 0);
-        x.operation(0, 1, 0, 9, 30);
-        x.operation(3, 2, 0, 6, 36);
+    private static void packetsInAnInbox() {
+        Guarded x = new Guarded(4, 2);
+        x.operation(0, Programs.LOAD, 0, 0, 0);
+        x.operation(5, Programs.LOAD, 0, 0, 0);
+        x.operation(0, Programs.STORE, 0, 9, 30);
+        x.operation(3, Programs.SWAP, 0, 6, 36);
         x.run(42);
-        Check.due("FWDM is in the buffer: DATA went first", x.buffer(0, OWN, 1), 1);
-        x.run(1);
-        Check.due("FWDM waits", x.buffer(0, INBOX, 1), 1);
-        x.run(5);
-        Check.due("FWDM waits still", x.buffer(0, INBOX, 1), 1);
-        x.run(1);
-        Check.due("FWDM was taken", x.buffer(0, INBOX, 1), 0);
+        Check.due("FWDM is in the buffer: DATA went first", x.buffer(0, Port.OWN, 1), 1);
+        Port.buffersDue("FWDM", x, 0, Port.INBOX, 1, 1, 1, 1, 1, 1, 1, 0);
     }
 
-    private static void buffersHaveLittleRoom() {
+    private static int fullest(int depth, int n, int port, int channel) {
+        Guarded x = Programs.crowd(depth, 5);
+        int most = 0;
+        while (x.callsLeft() >= 2) {
+            x.run(3);
+            most = Math.max(most, x.buffer(n, port, channel));
+        }
+        return most;
+    }
+
+    /** The buffers of the two nodes in the middle, through which most packets go. */
+    private static void aBufferIsFullWithDepthFlits() {
         for (int depth = 1; depth <= 4; depth++) {
             int most = 0;
-            MeshLines x = new MeshLines(depth, 5);
-            Programs.crowd(x);
-            for (int i = 0; i < 400; i++) {
-                x.run(1);
-                most = Math.max(most, Seen.fullestBuffer(x));
-                edgesAreEmpty(x);
+            for (int channel = 0; channel < 3; channel++) {
+                for (int port = 0; port < 5; port++) {
+                    most = Math.max(most, fullest(depth, 1, port, channel));
+                    most = Math.max(most, fullest(depth, 4, port, channel));
+                }
             }
             Check.due("most flits in a buffer", most, depth);
         }
     }
 
-    private static void edgesAreEmpty(MeshLines x) {
-        for (int n = 0; n < 6; n++) {
-            for (int c = 0; c < 3; c++) {
-                Check.due("a buffer at the edge", x.buffer(n, n < 3 ? NORTH : SOUTH, c), 0);
-                Check.holds("a buffer at the edge", n % 3 != 0 || x.buffer(n, WEST, c) == 0);
-                Check.holds("a buffer at the edge", n % 3 != 2 || x.buffer(n, EAST, c) == 0);
+    private static void buffersAtTheEdgeStayEmpty() {
+        int[][] edges = {
+            {0, Port.NORTH}, {1, Port.NORTH}, {2, Port.NORTH}, {3, Port.SOUTH}, {4, Port.SOUTH},
+            {5, Port.SOUTH}, {0, Port.WEST}, {3, Port.WEST}, {2, Port.EAST}, {5, Port.EAST},
+        };
+        for (int[] e : edges) {
+            for (int channel = 0; channel < 3; channel++) {
+                Check.due("a buffer at the edge", fullest(2, e[0], e[1], channel), 0);
             }
         }
     }
 
-    private static void noneSuchIsBad() {
-        MeshLines x = new MeshLines(2, 3);
+    private static void theFirstAndLastOfEverything() {
+        Guarded x = new Guarded(2, 3);
+        Check.due("buffer(0, 0, 0)", x.buffer(0, 0, 0), 0);
         Check.due("buffer(5, 6, 2)", x.buffer(5, 6, 2), 0);
-        int[][] none = {
-            {-1, 0, 0}, {6, 0, 0}, {0, -1, 0}, {0, 7, 0}, {0, 0, -1}, {0, 0, 3}, {0, 5, 3}, {0, 6, -1},
-            {Integer.MAX_VALUE, 0, 0}, {0, Integer.MIN_VALUE, 0}, {0, 0, Integer.MAX_VALUE},
-        };
-        for (int[] w : none) {
-            Check.due("buffer(" + w[0] + ", " + w[1] + ", " + w[2] + ")", x.buffer(w[0], w[1], w[2]), MeshLines.BAD);
+        Check.due("buffer(5, 4, 2)", x.buffer(5, 4, 2), 0);
+        Check.due("buffer(0, 5, 0)", x.buffer(0, 5, 0), 0);
+        x.operation(5, Programs.LOAD, 0, 0, 0);
+        x.run(1);
+        Check.due("buffer(5, 5, 0)", x.buffer(5, 5, 0), 1);
+    }
+
+    private static void noSuchNodeIsBad() {
+        Guarded x = new Guarded(2, 3);
+        int[] none = {-1, 6, LEAST, GREATEST};
+        for (int n : none) {
+            Check.due("buffer(" + n + ", 0, 0)", x.buffer(n, 0, 0), MeshLines.BAD);
+            Check.due("buffer(" + n + ", 5, 0)", x.buffer(n, 5, 0), MeshLines.BAD);
+            Check.due("buffer(" + n + ", 6, 0)", x.buffer(n, 6, 0), MeshLines.BAD);
+        }
+    }
+
+    private static void noSuchPortIsBad() {
+        Guarded x = new Guarded(2, 3);
+        int[] none = {-1, 7, 8, LEAST, GREATEST};
+        for (int port : none) {
+            Check.due("buffer(0, " + port + ", 0)", x.buffer(0, port, 0), MeshLines.BAD);
+        }
+    }
+
+    private static void noSuchChannelIsBad() {
+        Guarded x = new Guarded(2, 3);
+        int[] none = {-1, 3, LEAST, GREATEST};
+        for (int channel : none) {
+            Check.due("buffer(0, 0, " + channel + ")", x.buffer(0, 0, channel), MeshLines.BAD);
+            Check.due("buffer(0, 5, " + channel + ")", x.buffer(0, 5, channel), MeshLines.BAD);
+            Check.due("buffer(0, 6, " + channel + ")", x.buffer(0, 6, channel), MeshLines.BAD);
         }
     }
 }

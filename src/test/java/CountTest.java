@@ -1,68 +1,77 @@
 /** Promise 10: count. */
 public final class CountTest {
     public static void main(String[] args) {
-        packetsAndFlitsAreCounted();
+        packetsAreSentWhenTheyComeIntoTheRow();
+        packetsArriveWithTheirLastFlit();
+        flitsAreCountedAtEveryLink();
+        nothingGoesOverLinksWithinANode();
         packetsUnderWayAreTheDifference();
         othersAreZero();
         Check.end();
     }
 
-    private static void counts(MeshLines x, int sent, int arrived, int overLinks) {
-        Check.due("count(0)", x.count(0), sent);
-        Check.due("count(1)", x.count(1), arrived);
-        Check.due("count(2)", x.count(2), overLinks);
-    }
-
-    /** Node 1 loads line 0 of node 0, with DATA of four flits. */
-    private static void packetsAndFlitsAreCounted() {
-        MeshLines x = new MeshLines(4, 4);
-        x.operation(1, 0, 0, 0, 0);
-        x.run(1);
-        counts(x, 1, 0, 0);
-        x.run(1);
-        counts(x, 1, 0, 0);
-        x.run(1);
-        counts(x, 1, 0, 1);
-        x.run(1);
-        counts(x, 2, 1, 1);
-        x.run(1);
-        counts(x, 2, 1, 1);
-        for (int i = 2; i <= 5; i++) {
-            x.run(1);
-            counts(x, 2, 1, i);
+    private static void counts(Guarded x, int what, int... want) {
+        for (int due : want) {
+            int cycle = x.run(1);
+            Check.due("count(" + what + ") in cycle " + cycle, x.count(what), due);
         }
-        x.run(1);
-        counts(x, 2, 2, 5);
-        x.run(100);
-        counts(x, 2, 2, 5);
     }
 
-    /** A packet that was sent and did not arrive is in a row or has a flit in a buffer or held. */
+    /** Node 1 loads line 0 of node 0: GETS in cycle 1, DATA of four flits in cycle 4. */
+    private static Guarded asked() {
+        Guarded x = new Guarded(4, 4);
+        x.operation(1, Programs.LOAD, 0, 0, 0);
+        return x;
+    }
+
+    private static void packetsAreSentWhenTheyComeIntoTheRow() {
+        Guarded x = asked();
+        Check.due("before the first cycle", x.count(0), 0);
+        counts(x, 0, 1, 1, 1, 2, 2, 2, 2, 2, 2, 2, 2);
+    }
+
+    private static void packetsArriveWithTheirLastFlit() {
+        counts(asked(), 1, 0, 0, 0, 1, 1, 1, 1, 1, 1, 2, 2);
+    }
+
+    private static void flitsAreCountedAtEveryLink() {
+        counts(asked(), 2, 0, 0, 1, 1, 1, 2, 3, 4, 5, 5, 5);
+    }
+
+    private static void nothingGoesOverLinksWithinANode() {
+        Guarded x = new Guarded(1, 5);
+        x.operation(4, Programs.STORE, 4, 1, 0);
+        x.run(100);
+        Check.due("sent", x.count(0), 2);
+        Check.due("arrived", x.count(1), 2);
+        Check.due("over links", x.count(2), 0);
+    }
+
+    /** A packet that was sent and did not arrive is in a row or has a flit in a buffer. */
     private static void packetsUnderWayAreTheDifference() {
-        MeshLines x = new MeshLines(2, 2);
-        Programs.fill(x, 3, 40);
-        for (int i = 0; i < 300; i++) {
-            x.run(1);
-            boolean isAny = false;
+        for (int seed = 0; seed < 40; seed++) {
+            Guarded x = new Guarded(1 + seed % 4, 2 + seed % 3);
+            Programs.fill(x, seed, 20);
+            x.run(20 + seed);
+            int flitsOrPackets = 0;
             for (int n = 0; n < 6; n++) {
                 for (int c = 0; c < 3; c++) {
-                    for (int port = 0; port <= 5; port++) {
-                        isAny |= x.buffer(n, port, c) > 0;
+                    for (int port = 0; port <= Port.ROW; port++) {
+                        flitsOrPackets += x.buffer(n, port, c);
                     }
                 }
             }
-            Check.holds("packets under way are seen", isAny == (x.count(0) > x.count(1)));
+            Check.holds("packets under way are seen", flitsOrPackets > 0 == x.count(0) > x.count(1));
+            Programs.run(x, 8000);
+            Check.due("all arrived", x.count(1), x.count(0));
         }
-        for (int i = 0; i < 150; i++) {
-            x.run(100);
-        }
-        Check.due("all arrived", x.count(1), x.count(0));
     }
 
     private static void othersAreZero() {
-        MeshLines x = new MeshLines(2, 3);
-        x.operation(5, 1, 0, 1, 0);
+        Guarded x = new Guarded(2, 3);
+        x.operation(5, Programs.STORE, 0, 1, 0);
         x.run(50);
+        Check.holds("something is counted", x.count(0) > 0 && x.count(1) > 0 && x.count(2) > 0);
         int[] others = {-1, 3, 4, Integer.MIN_VALUE, Integer.MAX_VALUE};
         for (int what : others) {
             Check.due("count(" + what + ")", x.count(what), 0);

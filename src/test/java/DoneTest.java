@@ -1,18 +1,31 @@
 /** Promise 5: done. */
 public final class DoneTest {
     public static void main(String[] args) {
+        noneIsDoneAtFirst();
         operationsAreDoneInOrder();
-        doneByDataIsAtOnceAndTheNextOneWaits();
+        allFortyAreDone();
+        theFirstAndTheLastNode();
         noSuchNodeIsBad();
         Check.end();
     }
 
+    private static void noneIsDoneAtFirst() {
+        Guarded x = new Guarded(4, 2);
+        Check.due("without operations", x.done(0), 0);
+        x.operation(0, Programs.LOAD, 0, 0, 0);
+        Check.due("before the first cycle", x.done(0), 0);
+        x.run(5);
+        Check.due("DATA is under way", x.done(0), 0);
+        x.run(1);
+        Check.due("DATA came", x.done(0), 1);
+    }
+
     private static void operationsAreDoneInOrder() {
-        MeshLines x = new MeshLines(4, 2);
-        x.operation(0, 1, 0, 1, 50);
-        x.operation(0, 1, 0, 2, 0);
-        x.operation(0, 1, 0, 3, 0);
-        x.operation(3, 0, 3, 0, 0);
+        Guarded x = new Guarded(4, 2);
+        x.operation(0, Programs.STORE, 0, 1, 50);
+        x.operation(0, Programs.STORE, 0, 2, 0);
+        x.operation(0, Programs.STORE, 0, 3, 0);
+        x.operation(3, Programs.LOAD, 3, 0, 0);
         x.run(55);
         Check.due("done(0)", x.done(0), 0);
         Check.due("done(3)", x.done(3), 1);
@@ -26,25 +39,28 @@ public final class DoneTest {
         Check.due("done(0)", x.done(0), 3);
     }
 
-    /** The core does nothing more in the cycle of the DATA: the next request goes a cycle later. */
-    private static void doneByDataIsAtOnceAndTheNextOneWaits() {
-        MeshLines x = new MeshLines(4, 2);
-        x.operation(0, 0, 0, 0, 0);
-        x.operation(0, 0, 6, 0, 0);
-        x.run(6);
+    private static void allFortyAreDone() {
+        Guarded x = Programs.crowd(4, 2);
+        Programs.run(x, 10000);
+        for (int n = 0; n < 6; n++) {
+            Check.due("done(" + n + ")", x.done(n), 40);
+        }
+    }
+
+    private static void theFirstAndTheLastNode() {
+        Guarded x = new Guarded(4, 2);
+        x.operation(0, Programs.LOAD, 0, 0, 0);
+        x.operation(5, Programs.LOAD, 5, 0, 0);
+        x.operation(5, Programs.LOAD, 5, 0, 0);
+        x.run(10);
         Check.due("done(0)", x.done(0), 1);
-        Check.due("cache(0, 6, 0)", x.cache(0, 6, 0), 0);
-        Check.due("count(0)", x.count(0), 2);
-        x.run(1);
-        Check.due("cache(0, 6, 0)", x.cache(0, 6, 0), 1);
-        Check.due("count(0)", x.count(0), 3);
+        Check.due("done(5)", x.done(5), 2);
     }
 
     private static void noSuchNodeIsBad() {
-        MeshLines x = new MeshLines(2, 3);
-        Check.due("done(5)", x.done(5), 0);
-        Check.due("done(6)", x.done(6), MeshLines.BAD);
+        Guarded x = new Guarded(2, 3);
         Check.due("done(-1)", x.done(-1), MeshLines.BAD);
+        Check.due("done(6)", x.done(6), MeshLines.BAD);
         Check.due("the least", x.done(Integer.MIN_VALUE), MeshLines.BAD);
         Check.due("the greatest", x.done(Integer.MAX_VALUE), MeshLines.BAD);
     }

@@ -1,155 +1,303 @@
-/** Promise 7: home. */
+/** Promise 7: home; and Terms: what a home takes, and when it stalls. */
 public final class HomeTest {
-    private static final int I = 0;
-    private static final int S = 1;
-    private static final int M = 2;
-    private static final int SD = 3;
+    private static final int LOAD = Programs.LOAD;
+    private static final int STORE = Programs.STORE;
+    private static final int I = HomeLook.I;
+    private static final int S = HomeLook.S;
+    private static final int M = HomeLook.M;
+    private static final int SD = HomeLook.SD;
 
     public static void main(String[] args) {
-        sharersComeAndGo();
-        anOwnerGivesToTheHomeAndTheAsker();
-        anOwnerGoes();
-        dataEndsSdThoughAllSharersWent();
-        lateRequestsToLeaveChangeNoValue();
-        homesAreWhereTheyShouldBe();
-        noneSuchIsBad();
+        getsInIAndSMakesASharer();
+        getsInMMakesBothSharers();
+        getsAndGetmStallInSd();
+        getmInIMakesAnOwner();
+        getmOfTheOnlySharerNeedsNoAck();
+        getmAmongAllSharersNeedsFiveAcks();
+        invsAreSentAscending();
+        getmInMMakesAnotherOwner();
+        putsOfTheLastSharerMakesI();
+        putmOfTheOwnerMakesI();
+        putmOfAnOldOwnerInMChangesNothing();
+        putmOfAnOldOwnerInSdDropsASharer();
+        putmOfAnOldOwnerInSDropsASharer();
+        dataMakesS();
+        dataMakesSThoughAllSharersWent();
+        theFirstAndLastLine();
+        noSuchLineIsBad();
+        noSuchWhatIsBad();
         Check.end();
     }
 
-    private static void line(MeshLines x, String where, int l, int[] want) {
-        for (int what = 0; what < 4; what++) {
-            Check.due(where + ": home(" + l + ", " + what + ")", x.home(l, what), want[what]);
-        }
-    }
-
-    private static void sharersComeAndGo() {
-        MeshLines x = new MeshLines(4, 2);
-        x.operation(0, 0, 0, 0, 0);
-        x.operation(5, 0, 0, 0, 0);
+    private static void getsInIAndSMakesASharer() {
+        Guarded x = new Guarded(4, 2);
+        x.operation(0, LOAD, 0, 0, 0);
+        x.operation(5, LOAD, 0, 0, 0);
         x.run(2);
-        line(x, "GETS is under way", 0, new int[] {I, 0, 0, 0});
+        HomeLook.due("GETS is under way", x, 0, I, 0, 0, 0);
         x.run(1);
-        line(x, "GETS of node 0", 0, new int[] {S, 0, 0, 1});
+        HomeLook.due("GETS of node 0 in I", x, 0, S, 0, 0, 1);
         x.run(20);
-        line(x, "GETS of node 5", 0, new int[] {S, 0, 0, 33});
-        x.operation(0, 0, 6, 0, 0);
-        x.operation(0, 0, 2, 0, 0);
-        x.run(40);
-        line(x, "PUTS of node 0", 0, new int[] {S, 0, 0, 32});
-        x.operation(5, 0, 2, 0, 0);
-        x.operation(5, 0, 4, 0, 0);
-        x.run(60);
-        line(x, "PUTS of node 5", 0, new int[] {I, 0, 0, 0});
-        x.operation(1, 1, 2, 4, 0);
-        x.run(60);
-        line(x, "GETM of node 1", 2, new int[] {M, 0, 2, 0});
+        HomeLook.due("GETS of node 5 in S", x, 0, S, 0, 0, 1 + 32);
     }
 
-    /** In SD the home has the sharers but not yet the value. */
-    private static void anOwnerGivesToTheHomeAndTheAsker() {
-        MeshLines x = new MeshLines(4, 2);
-        x.operation(2, 1, 0, 7, 0);
+    /**
+     * Node 2 owns line 0 with the value 7, and node 0, its home, asks in cycle 31: FWDS is sent in
+     * 33 and taken in 37, DATA to node 0 comes in 42 and DATA to the home in 44.
+     */
+    private static Guarded ownedByTwo() {
+        Guarded x = new Guarded(4, 2);
+        x.operation(2, STORE, 0, 7, 0);
         x.run(30);
-        line(x, "owned by node 2", 0, new int[] {M, 0, 3, 0});
-        x.operation(0, 0, 0, 0, 0);
-        x.operation(3, 1, 0, 8, 5);
-        // GETS: 31, at the home in 33; FWDS goes over two links and is taken in 37.
-        x.run(3);
-        line(x, "FWDS was sent", 0, new int[] {SD, 0, 0, 5});
-        x.run(9);
-        line(x, "DATA for the home is the second packet", 0, new int[] {SD, 0, 0, 5});
-        Check.due("node 0 has its DATA", x.result(0, 0), 7);
-        Check.due("GETM of node 3 stalls", x.buffer(0, 6, 0), 1);
-        x.run(1);
-        Check.due("only the last flit is missing", x.home(0, 0), SD);
-        x.run(1);
-        line(x, "DATA ends SD, and GETM is taken in the same cycle", 0, new int[] {M, 7, 4, 0});
+        HomeLook.due("owned by node 2", x, 0, M, 0, 2 + 1, 0);
+        x.operation(0, LOAD, 0, 0, 0);
+        return x;
     }
 
-    private static void anOwnerGoes() {
-        MeshLines x = new MeshLines(1, 5);
-        x.operation(4, 1, 1, 11, 0);
-        x.operation(4, 1, 3, 33, 0);
-        x.operation(4, 1, 5, 55, 0);
-        for (int i = 0; i < 2; i++) {
-            x.run(100);
-        }
-        line(x, "PUTM", 1, new int[] {I, 11, 0, 0});
-        line(x, "not put", 3, new int[] {M, 0, 5, 0});
-        line(x, "not put", 5, new int[] {M, 0, 5, 0});
-    }
-
-    /** Both sharers have gone before the old owner's DATA is there: the document says S all the same. */
-    private static void dataEndsSdThoughAllSharersWent() {
-        MeshLines x = new MeshLines(1, 3);
-        x.operation(1, 1, 2, 1, 0);
-        x.operation(1, 1, 0, 7, 0);
-        x.operation(1, 0, 2, 0, 0);
-        x.operation(1, 0, 4, 0, 0);
-        x.operation(0, 0, 6, 0, 0);
-        x.operation(0, 0, 0, 0, 12);
-        x.operation(0, 0, 6, 0, 0);
-        x.operation(0, 0, 4, 0, 0);
-        x.run(39);
-        line(x, "both are gone", 0, new int[] {SD, 0, 0, 0});
+    private static void getsInMMakesBothSharers() {
+        Guarded x = ownedByTwo();
+        x.run(2);
+        HomeLook.due("before GETS", x, 0, M, 0, 2 + 1, 0);
         x.run(1);
-        line(x, "DATA", 0, new int[] {S, 7, 0, 0});
-        x.operation(5, 0, 0, 0, 0);
-        x.run(60);
-        line(x, "a new sharer", 0, new int[] {S, 7, 0, 32});
-        Check.due("its value", x.result(5, 0), 7);
+        HomeLook.due("GETS", x, 0, SD, 0, 0, 1 + 4);
     }
 
-    /** PUTM of a node that is the owner no more: FWDM overtook it, and the new owner stays. */
-    private static void lateRequestsToLeaveChangeNoValue() {
-        MeshLines x = new MeshLines(4, 5);
-        x.operation(5, 1, 0, 7, 0);
-        x.operation(5, 1, 4, 1, 0);
-        x.operation(5, 1, 2, 2, 0);
-        boolean isGoing = false;
-        for (int i = 0; i < 100 && !isGoing; i++) {
+    private static void getsAndGetmStallInSd() {
+        for (int kind = LOAD; kind <= STORE; kind++) {
+            Guarded x = ownedByTwo();
+            x.operation(3, kind, 0, 8, 5);
+            x.run(9);
+            Check.due("it is there and stalls", x.buffer(0, Port.INBOX, 0), 1);
+            x.run(4);
+            Check.due("it stalls still", x.buffer(0, Port.INBOX, 0), 1);
+            HomeLook.due("SD", x, 0, SD, 0, 0, 1 + 4);
             x.run(1);
-            isGoing = x.cache(5, 0, 0) == 8;
+            Check.due("it is taken", x.buffer(0, Port.INBOX, 0), 0);
         }
-        x.operation(0, 2, 0, 9, 0);
-        x.run(3);
-        line(x, "FWDM was sent", 0, new int[] {M, 0, 1, 0});
-        x.run(4);
-        Check.due("FWDM is under way still", x.cache(5, 0, 0), 8);
-        x.run(1);
-        Check.due("FWDM is taken", x.cache(5, 0, 0), 10);
-        Check.due("the value stays in IIA", x.cache(5, 0, 1), 7);
-        x.run(60);
-        line(x, "PUTM came late", 0, new int[] {M, 0, 1, 0});
-        Check.due("DONE", x.cache(5, 0, 0), 0);
-        Check.due("the new owner's result", x.result(0, 0), 7);
-        Check.due("the new owner's value", x.cache(0, 0, 1), 9);
     }
 
-    /** A node whose own lines are at home sends no flit over a link. */
-    private static void homesAreWhereTheyShouldBe() {
-        for (int l = 0; l < 8; l++) {
-            for (int n = 0; n < 6; n++) {
-                MeshLines x = new MeshLines(4, 2);
-                x.operation(n, 1, l, 1, 0);
-                x.run(40);
-                Check.due("done", x.done(n), 1);
-                Check.due("the owner", x.home(l, 2), n + 1);
-                int links = Math.abs(n % 3 - l % 6 % 3) + Math.abs(n / 3 - l % 6 / 3);
-                Check.due("flits over links", x.count(2), 3 * links);
+    private static void getmInIMakesAnOwner() {
+        Guarded x = new Guarded(4, 2);
+        x.operation(1, STORE, 2, 4, 0);
+        x.run(3);
+        HomeLook.due("before GETM", x, 2, I, 0, 0, 0);
+        x.run(1);
+        HomeLook.due("GETM", x, 2, M, 0, 1 + 1, 0);
+        Port.rowsDue("DATA and no INV", x, 2, 0, 0, 1);
+        x.run(50);
+        HomeLook.due("the home does not see the value", x, 2, M, 0, 1 + 1, 0);
+    }
+
+    private static void getmOfTheOnlySharerNeedsNoAck() {
+        Guarded x = new Guarded(4, 2);
+        x.operation(0, LOAD, 0, 0, 0);
+        x.operation(0, STORE, 0, 9, 0);
+        x.run(9);
+        HomeLook.due("GETM of the sharer", x, 0, M, 0, 1, 0);
+        Port.rowsDue("DATA and no INV", x, 0, 0, 0, 1);
+        x.run(3);
+        CacheLook.due("DATA without ACKS", x, 0, 0, CacheLook.M, 9, 0, 12);
+    }
+
+    /** All six share line 0, and node 0, its home, stores in cycle 101: GETM is taken in 103. */
+    private static Guarded allShare() {
+        Guarded x = new Guarded(4, 2);
+        for (int n = 0; n < 6; n++) {
+            x.operation(n, LOAD, 0, 0, 0);
+        }
+        x.run(100);
+        HomeLook.due("all share", x, 0, S, 0, 0, 63);
+        x.operation(0, STORE, 0, 9, 0);
+        x.run(3);
+        HomeLook.due("GETM of node 0", x, 0, M, 0, 1, 0);
+        return x;
+    }
+
+    private static void getmAmongAllSharersNeedsFiveAcks() {
+        Guarded x = allShare();
+        Port.rowsDue("DATA and five INVs", x, 0, 0, 5, 1);
+        x.run(3);
+        CacheLook.due("DATA with five of ACKS", x, 0, 0, CacheLook.SMA, 0, 5, x.cache(0, 0, 3));
+    }
+
+    /** INV of node n enters n cycles behind GETM, and needs one cycle a link and one more to go out. */
+    private static void invsAreSentAscending() {
+        Guarded x = allShare();
+        int[] gone = {0, 106, 108, 108, 110, 112};
+        for (int i = 0; i < 12; i++) {
+            int cycle = x.run(1);
+            for (int n = 1; n < 6; n++) {
+                int want = cycle >= gone[n] ? CacheLook.I : CacheLook.S;
+                Check.due("line 0 of node " + n + " in cycle " + cycle, x.cache(n, 0, 0), want);
             }
         }
     }
 
-    private static void noneSuchIsBad() {
-        MeshLines x = new MeshLines(2, 3);
-        Check.due("home(7, 3)", x.home(7, 3), 0);
-        int[][] none = {
-            {-1, 0}, {8, 0}, {0, -1}, {0, 4}, {Integer.MIN_VALUE, 0}, {Integer.MAX_VALUE, 0},
-            {0, Integer.MIN_VALUE}, {0, Integer.MAX_VALUE},
-        };
-        for (int[] w : none) {
-            Check.due("home(" + w[0] + ", " + w[1] + ")", x.home(w[0], w[1]), MeshLines.BAD);
+    private static void getmInMMakesAnotherOwner() {
+        Guarded x = new Guarded(4, 2);
+        x.operation(2, STORE, 0, 7, 0);
+        x.run(30);
+        x.operation(0, STORE, 0, 8, 0);
+        x.run(2);
+        HomeLook.due("before GETM", x, 0, M, 0, 2 + 1, 0);
+        x.run(1);
+        HomeLook.due("GETM", x, 0, M, 0, 0 + 1, 0);
+        Port.rowsDue("FWDM alone", x, 0, 0, 1, 0);
+    }
+
+    private static void putsOfTheLastSharerMakesI() {
+        Guarded x = new Guarded(4, 2);
+        x.operation(0, LOAD, 0, 0, 0);
+        x.operation(5, LOAD, 0, 0, 0);
+        x.run(50);
+        x.operation(0, LOAD, 6, 0, 0);
+        x.operation(0, LOAD, 2, 0, 0);
+        x.run(50);
+        HomeLook.due("PUTS of node 0, node 5 is left", x, 0, S, 0, 0, 32);
+        CacheLook.due("DONE", x, 0, 0, CacheLook.I, 0, 0, 6);
+        x.operation(5, LOAD, 2, 0, 0);
+        x.operation(5, LOAD, 4, 0, 0);
+        x.run(60);
+        HomeLook.due("PUTS of node 5, none is left", x, 0, I, 0, 0, 0);
+        Check.due("DONE", x.cache(5, 0, 0), CacheLook.I);
+    }
+
+    private static void putmOfTheOwnerMakesI() {
+        Guarded x = new Guarded(1, 5);
+        x.operation(4, STORE, 1, 11, 0);
+        x.operation(4, STORE, 3, 33, 0);
+        x.operation(4, STORE, 5, 55, 0);
+        Programs.run(x, 200);
+        HomeLook.due("PUTM", x, 1, I, 11, 0, 0);
+        HomeLook.due("not put", x, 3, M, 0, 4 + 1, 0);
+        HomeLook.due("not put", x, 5, M, 0, 4 + 1, 0);
+        Check.due("DONE", x.cache(4, 1, 0), CacheLook.I);
+    }
+
+    /**
+     * Node 5 lets go line 0 with the value 7: PUTM of five flits is sent in cycle 51, and node 0's
+     * request is taken in cycle 54, before it.
+     */
+    private static Guarded takenFromOneWhoGoes(int kind) {
+        Guarded x = new Guarded(4, 5);
+        x.operation(5, STORE, 0, 7, 0);
+        x.operation(5, STORE, 4, 1, 0);
+        x.run(50);
+        x.operation(5, STORE, 2, 2, 0);
+        x.run(1);
+        Check.due("PUTM is sent", x.cache(5, 0, 0), CacheLook.MIA);
+        x.operation(0, kind, 0, 9, 0);
+        x.run(3);
+        return x;
+    }
+
+    private static void putmOfAnOldOwnerInMChangesNothing() {
+        Guarded x = takenFromOneWhoGoes(STORE);
+        HomeLook.due("the new owner", x, 0, M, 0, 0 + 1, 0);
+        x.run(60);
+        Check.due("PUTM came and DONE went", x.cache(5, 0, 0), CacheLook.I);
+        HomeLook.due("the new owner still", x, 0, M, 0, 0 + 1, 0);
+        Check.due("the new owner's value", x.cache(0, 0, 1), 9);
+    }
+
+    /** FWDS is taken in cycle 59 and PUTM comes in 60, before the DATA that node 5 sends for FWDS. */
+    private static void putmOfAnOldOwnerInSdDropsASharer() {
+        Guarded x = takenFromOneWhoGoes(LOAD);
+        HomeLook.due("both share", x, 0, SD, 0, 0, 1 + 32);
+        int last = SD;
+        int cycles = 0;
+        while (x.home(0, 3) == 1 + 32 && cycles < 60) {
+            last = x.home(0, 0);
+            x.run(1);
+            cycles++;
+        }
+        Check.due("the state before PUTM", last, SD);
+        HomeLook.due("PUTM", x, 0, SD, 0, 0, 1);
+        x.run(60);
+        HomeLook.due("DATA", x, 0, S, 7, 0, 1);
+    }
+
+    /**
+     * Node 1's PUTM enters one flit before its two DATA, which are of a channel that goes first:
+     * the home is in S when PUTM is there.
+     */
+    private static void putmOfAnOldOwnerInSDropsASharer() {
+        Guarded x = new Guarded(4, 5);
+        x.operation(1, STORE, 0, 7, 0);
+        x.operation(1, STORE, 4, 1, 0);
+        x.run(50);
+        // Node 0's GETS: 51, taken in 53; FWDS enters in 54, goes over in 55 and out in 56.
+        x.operation(0, LOAD, 0, 0, 0);
+        x.operation(1, STORE, 2, 2, 4);
+        x.run(5);
+        Check.due("PUTM is sent", x.cache(1, 0, 0), CacheLook.MIA);
+        x.run(1);
+        Check.due("FWDS is taken", x.cache(1, 0, 0), CacheLook.SIA);
+        HomeLook.due("both share", x, 0, SD, 0, 0, 1 + 2);
+        int last = SD;
+        int cycles = 0;
+        while (x.home(0, 3) == 1 + 2 && cycles < 60) {
+            last = x.home(0, 0);
+            x.run(1);
+            cycles++;
+        }
+        Check.due("the state before PUTM", last, S);
+        HomeLook.due("PUTM", x, 0, S, 7, 0, 1);
+    }
+
+    private static void dataMakesS() {
+        Guarded x = ownedByTwo();
+        x.run(13);
+        HomeLook.due("before DATA", x, 0, SD, 0, 0, 1 + 4);
+        Check.due("node 0 has its own DATA", x.result(0, 0), 7);
+        x.run(1);
+        HomeLook.due("DATA", x, 0, S, 7, 0, 1 + 4);
+    }
+
+    /** Both sharers have gone before the old owner's DATA is there: the document says S all the same. */
+    private static void dataMakesSThoughAllSharersWent() {
+        Guarded x = new Guarded(1, 3);
+        x.operation(1, STORE, 2, 1, 0);
+        x.operation(1, STORE, 0, 7, 0);
+        x.operation(1, LOAD, 2, 0, 0);
+        x.operation(1, LOAD, 4, 0, 0);
+        x.operation(0, LOAD, 6, 0, 0);
+        x.operation(0, LOAD, 0, 0, 12);
+        x.operation(0, LOAD, 6, 0, 0);
+        x.operation(0, LOAD, 4, 0, 0);
+        x.run(39);
+        HomeLook.due("both are gone", x, 0, SD, 0, 0, 0);
+        x.run(1);
+        HomeLook.due("DATA", x, 0, S, 7, 0, 0);
+        x.operation(5, LOAD, 0, 0, 0);
+        x.run(60);
+        HomeLook.due("a new sharer", x, 0, S, 7, 0, 32);
+        Check.due("its value", x.result(5, 0), 7);
+    }
+
+    private static void theFirstAndLastLine() {
+        Guarded x = new Guarded(4, 2);
+        x.operation(2, STORE, 0, 5, 0);
+        x.operation(3, LOAD, 7, 0, 0);
+        x.run(50);
+        HomeLook.due("the first", x, 0, M, 0, 2 + 1, 0);
+        HomeLook.due("the last", x, 7, S, 0, 0, 8);
+    }
+
+    private static void noSuchLineIsBad() {
+        Guarded x = new Guarded(2, 3);
+        int[] none = {-1, 8, Integer.MIN_VALUE, Integer.MAX_VALUE};
+        for (int l : none) {
+            Check.due("home(" + l + ", 0)", x.home(l, 0), MeshLines.BAD);
+            Check.due("home(" + l + ", 3)", x.home(l, 3), MeshLines.BAD);
+        }
+    }
+
+    private static void noSuchWhatIsBad() {
+        Guarded x = new Guarded(2, 3);
+        int[] none = {-1, 4, Integer.MIN_VALUE, Integer.MAX_VALUE};
+        for (int what : none) {
+            Check.due("home(0, " + what + ")", x.home(0, what), MeshLines.BAD);
         }
     }
 }

@@ -7,7 +7,7 @@ import java.util.TreeSet;
  * The document written down a second time, sentence by sentence and with no care for speed, to
  * compare the program with. It shares no code with it.
  */
-final class PlainModel implements Seen.Face, Programs.Operations {
+final class PlainModel implements Face {
     enum Kind { GETS, GETM, PUTS, PUTM, FWDS, FWDM, INV, DONE, DATA, ACK }
 
     enum Line { I, ISD, IMAD, IMA, S, SMAD, SMA, M, MIA, SIA, IIA }
@@ -118,7 +118,8 @@ final class PlainModel implements Seen.Face, Programs.Operations {
         return operations.get(n).size() - 1;
     }
 
-    int run(int n) {
+    @Override
+    public int run(int n) {
         if (n < 0 || n > 100) {
             return -1;
         }
@@ -426,22 +427,34 @@ final class PlainModel implements Seen.Face, Programs.Operations {
 
     @Override
     public int result(int n, int k) {
+        if (n < 0 || n > 5 || k < 0) {
+            return 0;
+        }
         return k < results.get(n).size() ? results.get(n).get(k) : 0;
     }
 
     @Override
     public int done(int n) {
+        if (n < 0 || n > 5) {
+            return -1;
+        }
         return results.get(n).size();
     }
 
     @Override
     public int cache(int n, int l, int what) {
+        if (n < 0 || n > 5 || l < 0 || l > 7 || what < 0 || what > 3) {
+            return -1;
+        }
         CacheLine line = caches[n][l];
         return new int[] {line.state.ordinal(), line.value, line.needs, line.used}[what];
     }
 
     @Override
     public int home(int l, int what) {
+        if (l < 0 || l > 7 || what < 0 || what > 3) {
+            return -1;
+        }
         HomeLine home = homes[l];
         int bits = 0;
         for (int sharer : home.sharers) {
@@ -453,12 +466,18 @@ final class PlainModel implements Seen.Face, Programs.Operations {
 
     @Override
     public int buffer(int n, int port, int channel) {
+        if (n < 0 || n > 5 || port < 0 || port > 6 || channel < 0 || channel > 2) {
+            return -1;
+        }
         PerChannel here = at[n][channel];
         return port == 5 ? here.row.size() : port == 6 ? here.inbox.size() : here.ports.get(port).size();
     }
 
     @Override
     public int held(int n, int output, int channel) {
+        if (n < 0 || n > 5 || output < 0 || output > 4 || channel < 0 || channel > 2) {
+            return -1;
+        }
         Integer port = at[n][channel].heldBy[output];
         return port == null ? 0 : port + 1;
     }
