@@ -7,6 +7,7 @@ public final class HeldTest {
         noneHoldsAtFirst();
         anOutputIsHeldUntilTheLastFlit();
         otherOutputsAndChannelsAreFree();
+        putmHoldsAnOutputOfChannelZero();
         packetsOfOneFlitHoldNothing();
         linksAreHeldFromThePortOfTheirPacket();
         theLastPortIsFive();
@@ -48,6 +49,17 @@ public final class HeldTest {
                 }
             }
         }
+    }
+
+    /** Node 0 sends PUTM of its own line 0 in cycle 15; its three flits go out in 17, 18 and 19. */
+    private static void putmHoldsAnOutputOfChannelZero() {
+        Guarded x = new Guarded(2, 3);
+        x.operation(0, Programs.STORE, 0, 1, 0);
+        x.operation(0, Programs.STORE, 6, 2, 0);
+        x.operation(0, Programs.LOAD, 2, 0, 0);
+        x.run(15);
+        Check.due("PUTM is sent", x.cache(0, 0, 0), CacheLook.MIA);
+        Port.heldDue("PUTM", x, 0, Port.OWN, 0, 0, 5, 5, 0, 0);
     }
 
     /** GETS of node 5 goes through nodes 4 and 3 to node 0. */

@@ -21,6 +21,7 @@ public final class HomeTest {
         putmOfAnOldOwnerInMChangesNothing();
         putmOfAnOldOwnerInSdDropsASharer();
         putmOfAnOldOwnerInSDropsASharer();
+        putmOfTheLastSharerMakesI();
         dataMakesS();
         dataMakesSThoughAllSharersWent();
         theFirstAndLastLine();
@@ -243,6 +244,36 @@ public final class HomeTest {
         }
         Check.due("the state before PUTM", last, S);
         HomeLook.due("PUTM", x, 0, S, 7, 0, 1);
+    }
+
+    /**
+     * Node 0 owned line 4, gave it to node 4, its home, and lets it go too. The crowd of line 6
+     * holds its PUTM back: DATA to the home comes in cycle 41, node 4's PUTS in 42, PUTM in 47.
+     */
+    private static void putmOfTheLastSharerMakesI() {
+        Guarded x = new Guarded(4, 3);
+        x.operation(0, STORE, 4, 44, 0);
+        x.operation(0, LOAD, 6, 0, 0);
+        x.operation(0, LOAD, 0, 0, 2);
+        x.operation(1, LOAD, 2, 0, 0);
+        x.operation(1, LOAD, 6, 0, 0);
+        x.operation(3, LOAD, 6, 0, 0);
+        x.operation(3, STORE, 6, 31, 0);
+        x.operation(4, LOAD, 0, 0, 0);
+        x.operation(4, LOAD, 4, 0, 4);
+        x.operation(4, LOAD, 0, 0, 0);
+        x.operation(4, LOAD, 6, 0, 0);
+        x.operation(5, STORE, 6, 50, 0);
+        x.run(40);
+        HomeLook.due("before DATA", x, 4, SD, 0, 0, 1 + 16);
+        x.run(1);
+        HomeLook.due("DATA", x, 4, S, 44, 0, 1 + 16);
+        x.run(1);
+        HomeLook.due("PUTS of node 4", x, 4, S, 44, 0, 1);
+        x.run(4);
+        HomeLook.due("before PUTM", x, 4, S, 44, 0, 1);
+        x.run(1);
+        HomeLook.due("PUTM of node 0", x, 4, I, 44, 0, 0);
     }
 
     private static void dataMakesS() {

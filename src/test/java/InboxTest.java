@@ -9,6 +9,7 @@ public final class InboxTest {
         aStalledPacketStays();
         aStalledPacketLetsOtherLinesPass();
         aPacketBehindOneOfItsLineWaitsThoughItDoesNotStall();
+        itWaitsThoughAStalledOneOfAnotherLineStandsBetween();
         onePacketOfAChannelIsTakenACycle();
         channelTwoIsTakenBeforeChannelZero();
         channelTwoIsTakenBeforeChannelOne();
@@ -99,6 +100,34 @@ public final class InboxTest {
         Check.due("PUTS is taken", x.buffer(0, Port.INBOX, 0), 0);
         Check.due("DONE is sent", x.count(0), sent + 1);
         HomeLook.due("PUTS changes nothing in M", x, 0, HomeLook.M, 7, 3 + 1, 0);
+    }
+
+    /**
+     * The lines 6 and 0 of node 0 are in SD, and GETS of node 5 for line 6 and GETS of node 1 for
+     * line 0 stall. Node 3's PUTS of line 6 comes behind both in cycle 35.
+     */
+    private static void itWaitsThoughAStalledOneOfAnotherLineStandsBetween() {
+        Guarded x = new Guarded(1, 5);
+        x.operation(3, STORE, 6, 30, 0);
+        x.operation(3, STORE, 0, 31, 0);
+        x.operation(3, LOAD, 2, 0, 0);
+        x.operation(4, LOAD, 6, 0, 0);
+        x.operation(5, LOAD, 6, 0, 0);
+        x.operation(1, LOAD, 0, 0, 16);
+        x.operation(2, LOAD, 0, 0, 15);
+        x.run(34);
+        Check.due("both stall", x.buffer(0, Port.INBOX, 0), 2);
+        x.run(1);
+        Check.due("PUTS waits", x.buffer(0, Port.INBOX, 0), 3);
+        HomeLook.due("line 6", x, 6, HomeLook.SD, 0, 0, 8 + 16);
+        HomeLook.due("line 0", x, 0, HomeLook.SD, 0, 0, 4 + 8);
+        x.run(1);
+        Check.due("GETS of line 6 is taken", x.buffer(0, Port.INBOX, 0), 2);
+        HomeLook.due("line 6", x, 6, HomeLook.S, 30, 0, 8 + 16 + 32);
+        x.run(1);
+        Check.due("PUTS passes line 0", x.buffer(0, Port.INBOX, 0), 1);
+        HomeLook.due("line 6", x, 6, HomeLook.S, 30, 0, 16 + 32);
+        HomeLook.due("line 0", x, 0, HomeLook.SD, 0, 0, 4 + 8);
     }
 
     /** GETS of node 3 comes in cycle 39 and GETS of node 1 in cycle 40; both stall until cycle 44. */

@@ -16,6 +16,7 @@ public final class RouterTest {
         aFullBufferEastwardsHasRoomOneCycleLater();
         aFullBufferWestwardsHasRoomInTheSameCycle();
         aFullBufferLeavesTheOutputToTheNextChannel();
+        aBufferGivesToOneOutputAfterTheOtherInOneCycle();
         aFlitGoesOverOneLinkACycle();
         everyWayIsGone();
         Check.end();
@@ -194,6 +195,23 @@ public final class RouterTest {
         Port.buffersDue("GETS", x, 0, Port.OWN, 0, 1, 0);
         Check.due("DATA waits", x.buffer(0, Port.OWN, 2), 1);
         Check.due("the buffer that it waits for is full", x.buffer(1, Port.WEST, 2), 1);
+    }
+
+    /**
+     * Nodes 1, 3 and 4 share line 0, and node 5's GETM is taken in cycle 66: DATA goes EAST until
+     * cycle 72, with INV to node 1 (EAST), 3 (SOUTH) and 4 (EAST) behind one another. In cycle 73
+     * the first one goes EAST and then the second one SOUTH; the third one waits for EAST.
+     */
+    private static void aBufferGivesToOneOutputAfterTheOtherInOneCycle() {
+        Guarded x = new Guarded(4, 5);
+        x.operation(1, LOAD, 0, 0, 0);
+        x.operation(3, LOAD, 0, 0, 0);
+        x.operation(4, LOAD, 0, 0, 0);
+        x.run(60);
+        x.operation(5, STORE, 0, 9, 0);
+        x.run(6);
+        Port.rowsDue("DATA and three INVs", x, 0, 0, 3, 1);
+        Port.buffersDue("INVs", x, 0, Port.OWN, 1, 1, 2, 3, 3, 3, 3, 1, 0);
     }
 
     /** Eastwards node 1 moves behind node 0 and could pass the flit on at once. */
