@@ -48,24 +48,14 @@ public final class BufferTest {
         Port.buffersDue("FWDM", x, 0, Port.INBOX, 1, 1, 1, 1, 1, 1, 1, 0);
     }
 
-    private static int fullest(int depth, int n, int port, int channel) {
-        Guarded x = Programs.crowd(depth, 5);
-        int most = 0;
-        while (x.callsLeft() >= 2) {
-            x.run(3);
-            most = Math.max(most, x.buffer(n, port, channel));
-        }
-        return most;
-    }
-
     /** The buffers of the two nodes in the middle, through which most packets go. */
     private static void aBufferIsFullWithDepthFlits() {
         for (int depth = 1; depth <= 4; depth++) {
             int most = 0;
             for (int channel = 0; channel < 3; channel++) {
                 for (int port = 0; port < 5; port++) {
-                    most = Math.max(most, fullest(depth, 1, port, channel));
-                    most = Math.max(most, fullest(depth, 4, port, channel));
+                    most = Math.max(most, Programs.fullest(depth, 1, port, channel));
+                    most = Math.max(most, Programs.fullest(depth, 4, port, channel));
                 }
             }
             Check.due("most flits in a buffer", most, depth);
@@ -73,13 +63,9 @@ public final class BufferTest {
     }
 
     private static void buffersAtTheEdgeStayEmpty() {
-        int[][] edges = {
-            {0, Port.NORTH}, {1, Port.NORTH}, {2, Port.NORTH}, {3, Port.SOUTH}, {4, Port.SOUTH},
-            {5, Port.SOUTH}, {0, Port.WEST}, {3, Port.WEST}, {2, Port.EAST}, {5, Port.EAST},
-        };
-        for (int[] e : edges) {
+        for (int[] e : Port.EDGES) {
             for (int channel = 0; channel < 3; channel++) {
-                Check.due("a buffer at the edge", fullest(2, e[0], e[1], channel), 0);
+                Check.due("a buffer at the edge", Programs.fullest(2, e[0], e[1], channel), 0);
             }
         }
     }

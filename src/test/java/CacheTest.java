@@ -143,7 +143,7 @@ public final class CacheTest {
 
     /** All six share line 0, and node 0, its home, stores: five ACKs come in their own times. */
     private static void needsFallsOneByOne() {
-        Guarded x = allShare();
+        Guarded x = Scenes.allShare();
         x.operation(0, STORE, 0, 9, 0);
         x.run(6);
         int before = x.cache(0, 0, 2);
@@ -158,17 +158,6 @@ public final class CacheTest {
             before = needs;
         }
         Check.due("all came", state, M);
-    }
-
-    /** It is cycle 100. */
-    private static Guarded allShare() {
-        Guarded x = new Guarded(4, 2);
-        for (int n = 0; n < 6; n++) {
-            x.operation(n, LOAD, 0, 0, 0);
-        }
-        x.run(100);
-        HomeLook.due("all share", x, 0, HomeLook.S, 0, 0, 63);
-        return x;
     }
 
     private static void invInSMakesI() {
@@ -207,17 +196,9 @@ public final class CacheTest {
         CacheLook.due("node 1 gave it away", x, 1, 0, I, 0, 0, x.cache(1, 0, 3));
     }
 
-    /** As told in InboxTest: node 0's PUTS waits behind node 3's GETM, whose INV comes in 42. */
+    /** Node 0's PUTS waits behind node 3's GETM, whose INV comes in cycle 42. */
     private static void invInSiaMakesIia() {
-        Guarded x = new Guarded(1, 3);
-        x.operation(1, STORE, 2, 1, 0);
-        x.operation(1, STORE, 0, 7, 0);
-        x.operation(1, LOAD, 2, 0, 0);
-        x.operation(1, LOAD, 4, 0, 0);
-        x.operation(0, LOAD, 6, 0, 0);
-        x.operation(0, LOAD, 0, 0, 12);
-        x.operation(0, LOAD, 6, 0, 0);
-        x.operation(0, LOAD, 4, 0, 0);
+        Guarded x = Scenes.bothLetGo();
         x.operation(3, STORE, 0, 8, 27);
         x.run(41);
         CacheLook.due("PUTS was sent", x, 0, 0, SIA, 7, 0, 34);
@@ -272,20 +253,8 @@ public final class CacheTest {
         HomeLook.due("the home", x, 0, HomeLook.M, 0, 2 + 1, 0);
     }
 
-    /**
-     * Node 5 lets go line 0, which it has in M, with a PUTM of five flits; it is the cycle in which
-     * PUTM was sent. Node 0, the home, asks for it: the forward is sent 3 cycles later and comes 5
-     * behind that.
-     */
-    private static Guarded goingAndAskedFor(int kind) {
-        Guarded x = new Guarded(4, 5);
-        x.operation(5, STORE, 0, 7, 0);
-        x.operation(5, STORE, 4, 1, 0);
-        x.run(50);
-        x.operation(5, STORE, 2, 2, 0);
-        x.run(1);
-        Check.due("PUTM is sent", x.cache(5, 0, 0), MIA);
-        x.operation(0, kind, 0, 9, 0);
+    private static Guarded goingAndForwarded(int kind) {
+        Guarded x = Scenes.goingAndAskedFor(kind);
         x.run(7);
         Check.due("before the forward", x.cache(5, 0, 0), MIA);
         Check.due("before the forward", x.cache(5, 0, 1), 7);
@@ -294,7 +263,7 @@ public final class CacheTest {
     }
 
     private static void fwdsInMiaMakesSia() {
-        Guarded x = goingAndAskedFor(LOAD);
+        Guarded x = goingAndForwarded(LOAD);
         Check.due("FWDS", x.cache(5, 0, 0), SIA);
         Check.due("the value stays", x.cache(5, 0, 1), 7);
         Port.rowsDue("DATA to the asker and the home", x, 5, 0, 0, 2);
@@ -305,7 +274,7 @@ public final class CacheTest {
     }
 
     private static void fwdmInMiaMakesIia() {
-        Guarded x = goingAndAskedFor(STORE);
+        Guarded x = goingAndForwarded(STORE);
         Check.due("FWDM", x.cache(5, 0, 0), IIA);
         Check.due("the value stays", x.cache(5, 0, 1), 7);
         Port.rowsDue("DATA to the asker", x, 5, 0, 0, 1);

@@ -107,11 +107,7 @@ public final class HeldTest {
     }
 
     private static void outputsAtTheEdgeAreNeverHeld() {
-        int[][] edges = {
-            {0, Port.NORTH}, {1, Port.NORTH}, {2, Port.NORTH}, {3, Port.SOUTH}, {4, Port.SOUTH},
-            {5, Port.SOUTH}, {0, Port.WEST}, {3, Port.WEST}, {2, Port.EAST}, {5, Port.EAST},
-        };
-        for (int[] e : edges) {
+        for (int[] e : Port.EDGES) {
             Guarded x = Programs.crowd(2, 5);
             while (x.callsLeft() >= 3) {
                 x.run(3);

@@ -42,21 +42,8 @@ public final class HomeTest {
         HomeLook.due("GETS of node 5 in S", x, 0, S, 0, 0, 1 + 32);
     }
 
-    /**
-     * Node 2 owns line 0 with the value 7, and node 0, its home, asks in cycle 31: FWDS is sent in
-     * 33 and taken in 37, DATA to node 0 comes in 42 and DATA to the home in 44.
-     */
-    private static Guarded ownedByTwo() {
-        Guarded x = new Guarded(4, 2);
-        x.operation(2, STORE, 0, 7, 0);
-        x.run(30);
-        HomeLook.due("owned by node 2", x, 0, M, 0, 2 + 1, 0);
-        x.operation(0, LOAD, 0, 0, 0);
-        return x;
-    }
-
     private static void getsInMMakesBothSharers() {
-        Guarded x = ownedByTwo();
+        Guarded x = Scenes.longSd();
         x.run(2);
         HomeLook.due("before GETS", x, 0, M, 0, 2 + 1, 0);
         x.run(1);
@@ -65,7 +52,7 @@ public final class HomeTest {
 
     private static void getsAndGetmStallInSd() {
         for (int kind = LOAD; kind <= STORE; kind++) {
-            Guarded x = ownedByTwo();
+            Guarded x = Scenes.longSd();
             x.operation(3, kind, 0, 8, 5);
             x.run(9);
             Check.due("it is there and stalls", x.buffer(0, Port.INBOX, 0), 1);
@@ -100,14 +87,9 @@ public final class HomeTest {
         CacheLook.due("DATA without ACKS", x, 0, 0, CacheLook.M, 9, 0, 12);
     }
 
-    /** All six share line 0, and node 0, its home, stores in cycle 101: GETM is taken in 103. */
-    private static Guarded allShare() {
-        Guarded x = new Guarded(4, 2);
-        for (int n = 0; n < 6; n++) {
-            x.operation(n, LOAD, 0, 0, 0);
-        }
-        x.run(100);
-        HomeLook.due("all share", x, 0, S, 0, 0, 63);
+    /** Node 0, the home, stores in cycle 101: GETM is taken in 103, which it is. */
+    private static Guarded allSharedOneStores() {
+        Guarded x = Scenes.allShare();
         x.operation(0, STORE, 0, 9, 0);
         x.run(3);
         HomeLook.due("GETM of node 0", x, 0, M, 0, 1, 0);
@@ -115,7 +97,7 @@ public final class HomeTest {
     }
 
     private static void getmAmongAllSharersNeedsFiveAcks() {
-        Guarded x = allShare();
+        Guarded x = allSharedOneStores();
         Port.rowsDue("DATA and five INVs", x, 0, 0, 5, 1);
         x.run(3);
         CacheLook.due("DATA with five of ACKS", x, 0, 0, CacheLook.SMA, 0, 5, x.cache(0, 0, 3));
@@ -123,7 +105,7 @@ public final class HomeTest {
 
     /** INV of node n enters n cycles behind GETM, and needs one cycle a link and one more to go out. */
     private static void invsAreSentAscending() {
-        Guarded x = allShare();
+        Guarded x = allSharedOneStores();
         int[] gone = {0, 106, 108, 108, 110, 112};
         for (int i = 0; i < 12; i++) {
             int cycle = x.run(1);
@@ -175,25 +157,9 @@ public final class HomeTest {
         Check.due("DONE", x.cache(4, 1, 0), CacheLook.I);
     }
 
-    /**
-     * Node 5 lets go line 0 with the value 7: PUTM of five flits is sent in cycle 51, and node 0's
-     * request is taken in cycle 54, before it.
-     */
-    private static Guarded takenFromOneWhoGoes(int kind) {
-        Guarded x = new Guarded(4, 5);
-        x.operation(5, STORE, 0, 7, 0);
-        x.operation(5, STORE, 4, 1, 0);
-        x.run(50);
-        x.operation(5, STORE, 2, 2, 0);
-        x.run(1);
-        Check.due("PUTM is sent", x.cache(5, 0, 0), CacheLook.MIA);
-        x.operation(0, kind, 0, 9, 0);
-        x.run(3);
-        return x;
-    }
-
     private static void putmOfAnOldOwnerInMChangesNothing() {
-        Guarded x = takenFromOneWhoGoes(STORE);
+        Guarded x = Scenes.goingAndAskedFor(STORE);
+        x.run(3);
         HomeLook.due("the new owner", x, 0, M, 0, 0 + 1, 0);
         x.run(60);
         Check.due("PUTM came and DONE went", x.cache(5, 0, 0), CacheLook.I);
@@ -201,18 +167,14 @@ public final class HomeTest {
         Check.due("the new owner's value", x.cache(0, 0, 1), 9);
     }
 
-    /** FWDS is taken in cycle 59 and PUTM comes in 60, before the DATA that node 5 sends for FWDS. */
+    /** PUTM comes before the DATA that node 5 sends for FWDS. */
     private static void putmOfAnOldOwnerInSdDropsASharer() {
-        Guarded x = takenFromOneWhoGoes(LOAD);
+        Guarded x = Scenes.goingAndAskedFor(LOAD);
+        x.run(3);
         HomeLook.due("both share", x, 0, SD, 0, 0, 1 + 32);
-        int last = SD;
-        int cycles = 0;
-        while (x.home(0, 3) == 1 + 32 && cycles < 60) {
-            last = x.home(0, 0);
-            x.run(1);
-            cycles++;
-        }
-        Check.due("the state before PUTM", last, SD);
+        x.run(5);
+        HomeLook.due("before PUTM", x, 0, SD, 0, 0, 1 + 32);
+        x.run(1);
         HomeLook.due("PUTM", x, 0, SD, 0, 0, 1);
         x.run(60);
         HomeLook.due("DATA", x, 0, S, 7, 0, 1);
@@ -235,14 +197,13 @@ public final class HomeTest {
         x.run(1);
         Check.due("FWDS is taken", x.cache(1, 0, 0), CacheLook.SIA);
         HomeLook.due("both share", x, 0, SD, 0, 0, 1 + 2);
-        int last = SD;
-        int cycles = 0;
-        while (x.home(0, 3) == 1 + 2 && cycles < 60) {
-            last = x.home(0, 0);
-            x.run(1);
-            cycles++;
-        }
-        Check.due("the state before PUTM", last, S);
+        x.run(11);
+        HomeLook.due("before DATA", x, 0, SD, 0, 0, 1 + 2);
+        x.run(1);
+        HomeLook.due("DATA", x, 0, S, 7, 0, 1 + 2);
+        x.run(3);
+        HomeLook.due("before PUTM", x, 0, S, 7, 0, 1 + 2);
+        x.run(1);
         HomeLook.due("PUTM", x, 0, S, 7, 0, 1);
     }
 
@@ -277,7 +238,7 @@ public final class HomeTest {
     }
 
     private static void dataMakesS() {
-        Guarded x = ownedByTwo();
+        Guarded x = Scenes.longSd();
         x.run(13);
         HomeLook.due("before DATA", x, 0, SD, 0, 0, 1 + 4);
         Check.due("node 0 has its own DATA", x.result(0, 0), 7);
@@ -287,15 +248,7 @@ public final class HomeTest {
 
     /** Both sharers have gone before the old owner's DATA is there: the document says S all the same. */
     private static void dataMakesSThoughAllSharersWent() {
-        Guarded x = new Guarded(1, 3);
-        x.operation(1, STORE, 2, 1, 0);
-        x.operation(1, STORE, 0, 7, 0);
-        x.operation(1, LOAD, 2, 0, 0);
-        x.operation(1, LOAD, 4, 0, 0);
-        x.operation(0, LOAD, 6, 0, 0);
-        x.operation(0, LOAD, 0, 0, 12);
-        x.operation(0, LOAD, 6, 0, 0);
-        x.operation(0, LOAD, 4, 0, 0);
+        Guarded x = Scenes.bothLetGo();
         x.run(39);
         HomeLook.due("both are gone", x, 0, SD, 0, 0, 0);
         x.run(1);

@@ -36,21 +36,9 @@ public final class InboxTest {
         Check.due("the home", x.home(0, 0), HomeLook.S);
     }
 
-    /**
-     * Node 2 owns line 0 with the value 7 and gives it to node 0, the home: SD from cycle 33 on,
-     * until the second DATA of node 2 is there in cycle 44. It is cycle 30 now.
-     */
-    private static Guarded longSd() {
-        Guarded x = new Guarded(4, 2);
-        x.operation(2, STORE, 0, 7, 0);
-        x.run(30);
-        x.operation(0, LOAD, 0, 0, 0);
-        return x;
-    }
-
     /** Node 3's GETM comes in cycle 39. */
     private static void aStalledPacketStays() {
-        Guarded x = longSd();
+        Guarded x = Scenes.longSd();
         x.operation(3, STORE, 0, 8, 5);
         x.run(8);
         Port.buffersDue("GETM", x, 0, Port.INBOX, 0, 1, 1, 1, 1, 1, 0);
@@ -59,7 +47,7 @@ public final class InboxTest {
 
     /** Node 1's GETS of line 6 comes in cycle 40 and stands behind node 3's GETM of line 0. */
     private static void aStalledPacketLetsOtherLinesPass() {
-        Guarded x = longSd();
+        Guarded x = Scenes.longSd();
         x.operation(3, STORE, 0, 8, 5);
         x.operation(1, LOAD, 6, 0, 6);
         x.run(9);
@@ -72,20 +60,9 @@ public final class InboxTest {
         HomeLook.due("GETM is taken", x, 0, HomeLook.M, 7, 3 + 1, 0);
     }
 
-    /**
-     * Node 1 owned line 0 and gave it to node 0, both of which let it go again before the slow DATA
-     * to the home is there. Node 3's GETM came in between and stalls, with node 0's PUTS behind it.
-     */
+    /** Node 3's GETM stalls from cycle 33 on, and node 0's PUTS comes behind it in cycle 39. */
     private static void aPacketBehindOneOfItsLineWaitsThoughItDoesNotStall() {
-        Guarded x = new Guarded(1, 3);
-        x.operation(1, STORE, 2, 1, 0);
-        x.operation(1, STORE, 0, 7, 0);
-        x.operation(1, LOAD, 2, 0, 0);
-        x.operation(1, LOAD, 4, 0, 0);
-        x.operation(0, LOAD, 6, 0, 0);
-        x.operation(0, LOAD, 0, 0, 12);
-        x.operation(0, LOAD, 6, 0, 0);
-        x.operation(0, LOAD, 4, 0, 0);
+        Guarded x = Scenes.bothLetGo();
         x.operation(3, STORE, 0, 8, 27);
         x.run(38);
         Check.due("GETM is there", x.buffer(0, Port.INBOX, 0), 1);
@@ -132,7 +109,7 @@ public final class InboxTest {
 
     /** GETS of node 3 comes in cycle 39 and GETS of node 1 in cycle 40; both stall until cycle 44. */
     private static void onePacketOfAChannelIsTakenACycle() {
-        Guarded x = longSd();
+        Guarded x = Scenes.longSd();
         x.operation(3, LOAD, 0, 0, 5);
         x.operation(1, LOAD, 0, 0, 6);
         x.run(13);
@@ -147,7 +124,7 @@ public final class InboxTest {
     }
 
     private static void channelTwoIsTakenBeforeChannelZero() {
-        Guarded x = longSd();
+        Guarded x = Scenes.longSd();
         x.operation(3, LOAD, 0, 0, 5);
         x.run(13);
         HomeLook.due("before DATA", x, 0, HomeLook.SD, 0, 0, 1 + 4);

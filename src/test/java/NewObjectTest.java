@@ -20,23 +20,12 @@ public final class NewObjectTest {
         Check.end();
     }
 
-    /** The most flits that one buffer ever has in a busy run. */
-    private static int fullest(int depth, int n, int port, int channel) {
-        Guarded x = Programs.crowd(depth, 5);
-        int most = 0;
-        while (x.callsLeft() >= 2) {
-            x.run(3);
-            most = Math.max(most, x.buffer(n, port, channel));
-        }
-        return most;
-    }
-
     private static int fullest(int depth) {
         int most = 0;
         for (int n = 0; n < 6; n++) {
             for (int port = 0; port < 5; port++) {
                 for (int channel = 0; channel < 3; channel++) {
-                    most = Math.max(most, fullest(depth, n, port, channel));
+                    most = Math.max(most, Programs.fullest(depth, n, port, channel));
                 }
             }
         }

@@ -8,6 +8,12 @@ final class Port {
     static final int ROW = 5;
     static final int INBOX = 6;
 
+    /** The nodes and ports that look out of the mesh. */
+    static final int[][] EDGES = {
+        {0, NORTH}, {1, NORTH}, {2, NORTH}, {3, SOUTH}, {4, SOUTH}, {5, SOUTH},
+        {0, WEST}, {3, WEST}, {2, EAST}, {5, EAST},
+    };
+
     private Port() {
     }
 

@@ -39,6 +39,17 @@ final class Programs {
         return x;
     }
 
+    /** The most flits that one buffer ever has in the crowd. */
+    static int fullest(int depth, int n, int port, int channel) {
+        Guarded x = crowd(depth, 5);
+        int most = 0;
+        while (x.callsLeft() >= 2) {
+            x.run(3);
+            most = Math.max(most, x.buffer(n, port, channel));
+        }
+        return most;
+    }
+
     /** So many cycles, also more than one call may ask for. */
     static void run(Face x, int cycles) {
         for (int left = cycles; left > 0; left -= 100) {
