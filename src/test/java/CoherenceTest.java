@@ -5,6 +5,9 @@ public final class CoherenceTest {
     private static final int SMAD = CacheLook.SMAD;
     private static final int M = CacheLook.M;
     private static final int ENOUGH = 12000;
+    // PUTM and DONE to make room, then GETM, DATA, five INV and five ACK. The program makes an object
+    // for each packet and relies on this bound.
+    private static final int MOST_PACKETS = 14;
 
     public static void main(String[] args) {
         for (int seed = 1000; seed < 1060; seed++) {
@@ -41,10 +44,14 @@ public final class CoherenceTest {
         Guarded x = started(seed);
         int[] filled = Programs.fill(x, seed, 40);
         Programs.run(x, ENOUGH);
+        int operations = 0;
         for (int n = 0; n < 6; n++) {
             Check.due("all operations are done", x.done(n), filled[n]);
+            operations += filled[n];
         }
-        Check.due("all packets arrived", x.count(1), x.count(0));
+        int sent = x.count(0);
+        Check.due("all packets arrived", x.count(1), sent);
+        Check.holds("the packets of an operation are bounded", sent <= operations * MOST_PACKETS);
         for (int i = 0; i < 6 * 5 * 3; i++) {
             Check.due("all buffers are empty", x.buffer(i / 15, i / 3 % 5, i % 3), 0);
         }
